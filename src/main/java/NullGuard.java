@@ -46,8 +46,7 @@ public final class NullGuard {
     /** Bit v is 1 if local v is SOLID. */
     private int solidLocals;
 
-    // Many calls ask about one text, so it is parsed and checked once, by the first that needs it.
-    private boolean parsed;
+    /** Many calls ask about one program, so it is checked once, by the first that needs it. */
     private boolean checked;
 
     public NullGuard() {
@@ -60,13 +59,15 @@ public final class NullGuard {
         if (!program.append(part)) {
             return false;
         }
-        forgetProgram();
+        program.parse();
+        checked = false;
         return true;
     }
 
     public void wipe() {
         program.clear();
-        forgetProgram();
+        program.parse();
+        checked = false;
     }
 
     public int length() {
@@ -84,19 +85,19 @@ public final class NullGuard {
     }
 
     public int statements() {
-        return isProgram() ? program.statementCount : NONE;
+        return program.valid ? program.statementCount : NONE;
     }
 
     public int alarms() {
-        return isProgram() ? knowledge().countAlarms() : NONE;
+        return program.valid ? knowledge().countAlarms() : NONE;
     }
 
     public int alarm(int p) {
-        return isPlace(p) ? knowledge().alarmsAt[p] : NONE;
+        return program.counts(p) ? knowledge().alarmsAt[p] : NONE;
     }
 
     public int sure(int p, int v) {
-        if (!isPlace(p) || !isLocal(v)) {
+        if (!program.counts(p) || !isLocal(v)) {
             return NONE;
         }
         if (!knowledge().isReached(p)) {
@@ -106,11 +107,11 @@ public final class NullGuard {
     }
 
     public boolean linked(int p, int v) {
-        return isPlace(p) && isLocal(v) && knowledge().isReached(p) && knowledge().isLinkedAt(p, v);
+        return program.counts(p) && isLocal(v) && knowledge().isReached(p) && knowledge().isLinkedAt(p, v);
     }
 
     public int run(int start, long oracle) {
-        return isProgram() ? machine.execute(program, solidLocals, start, oracle) : NONE;
+        return program.valid ? machine.execute(program, solidLocals, start, oracle) : NONE;
     }
 
     public int held(int v) {
@@ -135,23 +136,6 @@ public final class NullGuard {
         return machine.stepCount;
     }
 
-    private void forgetProgram() {
-        parsed = false;
-        checked = false;
-    }
-
-    private boolean isProgram() {
-        if (!parsed) {
-            program.parse();
-            parsed = true;
-        }
-        return program.valid;
-    }
-
-    private boolean isPlace(int p) {
-        return isProgram() && program.counts(p);
-    }
-
     /** Only to be asked for once the text is known to be a program. */
     private Checker knowledge() {
         if (!checked) {
@@ -167,7 +151,7 @@ public final class NullGuard {
 
     /**
      * The text and, if it is a program, what stands at its places and where the ways go from there.
-     * All rows are indexed by place and made once, to be used again for every text.
+     * All rows are made once, to be used again for every text, since all objects share one room.
      */
     private static final class Program {
         /** Returned instead of a place where the text is not built as it must be. */
@@ -199,6 +183,17 @@ public final class NullGuard {
         /** For the '}' of a block: where one goes from the block's end. */
         private final int[] exit = new int[PLACES];
 
+        // The conditions whose blocks are being read, the outermost first: the place of the ? or *, of
+        // its first '{', and of its first '}' once its second block has begun, else NONE.
+        private final int[] heads = new int[MAX_DEPTH];
+        private final int[] opens = new int[MAX_DEPTH];
+        private final int[] firstCloses = new int[MAX_DEPTH];
+        private int depth;
+
+        Program() {
+            parse();
+        }
+
         boolean append(long typed) {
             int added = countCharacters(typed);
             if (added == BROKEN || size + added > MAX_TEXT) {
@@ -219,13 +214,18 @@ public final class NullGuard {
         }
 
         boolean counts(int p) {
-            return p >= 0 && p <= size && kind[p] != NO_PLACE;
+            return valid && p >= 0 && p <= size && kind[p] != NO_PLACE;
         }
 
         void parse() {
             Arrays.fill(kind, NO_PLACE);
             statementCount = 0;
-            valid = readStatements(0, 0) == size;
+            depth = 0;
+            int at = 0;
+            for (int i = 0; i < MAX_TEXT && at >= 0 && at < size; i++) {
+                at = charAt(at) == '}' ? closeBlock(at) : readStatement(at);
+            }
+            valid = at == size && depth == 0;
             if (valid) {
                 kind[size] = END;
                 leadWaysOutOfBlocks();
@@ -253,23 +253,14 @@ public final class NullGuard {
             return at >= 0 && at < size ? text[at] : 0;
         }
 
-        /** Reads as many statements as there are: the place behind them. */
-        private int readStatements(int from, int depth) {
-            int at = from;
-            for (int i = 0; i < MAX_TEXT && at >= 0 && at < size && charAt(at) != '}'; i++) {
-                at = readStatement(at, depth);
-            }
-            return at;
-        }
+        // The readers answer the place where reading goes on, or BROKEN.
 
-        private int readStatement(int at, int depth) {
+        /** Reads a statement; of a ? or * only up to where its first block begins. */
+        private int readStatement(int at) {
             statementCount++;
             char first = charAt(at);
-            if (first == '?') {
-                return readChoice(at, depth);
-            }
-            if (first == '*') {
-                return readLoop(at, depth);
+            if (first == '?' || first == '*') {
+                return openBlock(at, readCondition(at));
             }
             if (first == '!') {
                 return readSign(at, CALL);
@@ -298,57 +289,15 @@ public final class NullGuard {
                 return BROKEN;
             }
             kind[at] = WRITE;
-            local[at] = localAt(at);
+            local[at] = localOf(charAt(at));
             part[at] = target;
             value[at] = given;
-            source[at] = localAt(sign + 1);
+            source[at] = localOf(charAt(sign + 1));
             way[at] = semicolon + 1;
             return semicolon + 1;
         }
 
-        private int readChoice(int at, int depth) {
-            int open = readCondition(at);
-            int close = readBlock(open, depth);
-            if (close == BROKEN) {
-                return BROKEN;
-            }
-            int end = close + 1;
-            int ifFalse = end;
-            if (charAt(end) == '{') {
-                ifFalse = end + 1;
-                int secondClose = readBlock(end, depth);
-                if (secondClose == BROKEN) {
-                    return BROKEN;
-                }
-                end = secondClose + 1;
-                exit[secondClose] = end;
-            }
-            exit[close] = end;
-            linkCondition(at + 1, open, ifFalse);
-            return end;
-        }
-
-        private int readLoop(int at, int depth) {
-            int open = readCondition(at);
-            int close = readBlock(open, depth);
-            if (close == BROKEN) {
-                return BROKEN;
-            }
-            exit[close] = at + 1;
-            linkCondition(at + 1, open, close + 1);
-            return close + 1;
-        }
-
-        /** Reads a block that must begin here: the place of its '}'. */
-        private int readBlock(int open, int depth) {
-            if (charAt(open) != '{' || depth >= MAX_DEPTH) {
-                return BROKEN;
-            }
-            int close = readStatements(open + 1, depth + 1);
-            return charAt(close) == '}' ? close : BROKEN;
-        }
-
-        /** Reads a ? or * and its atoms: the place behind them. */
+        /** Reads a ? or * and its atoms. */
         private int readCondition(int at) {
             kind[at] = SPLIT;
             way[at] = at + 1;
@@ -357,6 +306,39 @@ public final class NullGuard {
                 next = readAtom(next + 1);
             }
             return next;
+        }
+
+        private int openBlock(int head, int open) {
+            if (charAt(open) != '{' || depth >= MAX_DEPTH) {
+                return BROKEN;
+            }
+            heads[depth] = head;
+            opens[depth] = open;
+            firstCloses[depth] = NONE;
+            depth++;
+            return open + 1;
+        }
+
+        private int closeBlock(int close) {
+            if (depth == 0) {
+                return BROKEN;
+            }
+            int top = depth - 1;
+            boolean loop = charAt(heads[top]) == '*';
+            if (!loop && firstCloses[top] == NONE && charAt(close + 1) == '{') {
+                firstCloses[top] = close;
+                return close + 2;
+            }
+            depth--;
+            int end = close + 1;
+            int ifFalse = end;
+            exit[close] = loop ? heads[top] + 1 : end;
+            if (firstCloses[top] != NONE) {
+                exit[firstCloses[top]] = end;
+                ifFalse = firstCloses[top] + 2;
+            }
+            linkAtoms(heads[top] + 1, opens[top], ifFalse);
+            return end;
         }
 
         private int readAtom(int at) {
@@ -371,19 +353,18 @@ public final class NullGuard {
                 return BROKEN;
             }
             kind[at] = ATOM;
-            local[at] = localAt(name);
+            local[at] = localOf(charAt(name));
             part[at] = named;
             return behind(name, named);
         }
 
-        private int localAt(int at) {
-            char c = charAt(at);
+        private static int localOf(char c) {
             return c >= 'a' && c <= 'e' ? c - 'a' : NONE;
         }
 
         /** What a local, with or without a field, names here; BROKEN if there is no such. */
         private int partAt(int at) {
-            if (localAt(at) == NONE) {
+            if (localOf(charAt(at)) == NONE) {
                 return BROKEN;
             }
             if (charAt(at + 1) != '.') {
@@ -412,7 +393,7 @@ public final class NullGuard {
         }
 
         /** Goes backward, because where an atom leads to is what stands behind it. */
-        private void linkCondition(int first, int open, int ifFalse) {
+        private void linkAtoms(int first, int open, int ifFalse) {
             int trueTo = open + 1;
             int falseTo = ifFalse;
             for (int p = open - 1; p >= first; p--) {
@@ -615,10 +596,11 @@ public final class NullGuard {
         }
 
         private void use(int v) {
-            if (!has(sureBit(v))) {
+            int sure = 1 << v;
+            if ((known & sure) == 0) {
                 found |= USED_NOTHING;
             }
-            known |= sureBit(v);
+            known |= sure;
         }
 
         private boolean has(int bit) {
