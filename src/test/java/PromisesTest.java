@@ -65,6 +65,16 @@ public final class PromisesTest {
         Due.is("type 126", true, guard.type(126));
         Due.is("no program now", NONE, guard.statements());
         typeToTheLimit();
+        typeAfterAsking();
+    }
+
+    private static void typeAfterAsking() {
+        NullGuard guard = Due.typed("a=N;");
+        Due.is("sure before more is typed", 2, guard.sure(4, 0));
+        Due.is("no alarm before more is typed", 0, guard.alarms());
+        Due.type(guard, "b.h=a;");
+        Due.is("alarm of what was typed since", 1, guard.alarm(4));
+        Due.is("linked by what was typed since", true, guard.linked(10, 1));
     }
 
     private static void typeToTheLimit() {
@@ -99,6 +109,9 @@ public final class PromisesTest {
         Due.is("wiped twice", 0, guard.length());
         Due.type(guard, "b.g=c;");
         Due.is("typed after wipe", 2, guard.alarm(0));
+        guard.wipe();
+        Due.is("alarms wiped", 0, guard.alarms());
+        Due.is("alarm wiped", 0, guard.alarm(0));
     }
 
     // Promise 4
