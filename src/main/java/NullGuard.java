@@ -596,11 +596,10 @@ public final class NullGuard {
         }
 
         private void use(int v) {
-            int sure = 1 << v;
-            if ((known & sure) == 0) {
+            if (!has(sureBit(v))) {
                 found |= USED_NOTHING;
             }
-            known |= sure;
+            known |= sureBit(v);
         }
 
         private boolean has(int bit) {

@@ -1,7 +1,6 @@
 /** One method a promise: ordinary inputs, the edges that the document names, and wrong inputs. */
 public final class PromisesTest {
     private static final int NONE = NullGuard.NONE;
-    private static final int[] NO_LOCALS = {-1, 5, 32, Integer.MIN_VALUE, Integer.MAX_VALUE};
 
     public static void main(String[] args) {
         newObject();
@@ -127,7 +126,7 @@ public final class PromisesTest {
 
     private static void declare() {
         NullGuard guard = Due.typed("a=n;e=n;");
-        for (int v : NO_LOCALS) {
+        for (int v : Due.NO_LOCALS) {
             Due.is("declare " + v, false, guard.declare(v, true));
         }
         Due.is("no alarms", 0, guard.alarms());
@@ -147,20 +146,16 @@ public final class PromisesTest {
     // Promise 6
 
     private static void statements() {
-        isProgram("", 0);
-        isProgram("a=n;b=N;c=@;d=e;e=a.g;a=b.h;", 6);
-        isProgram("a.g=n;b.h=N;c.g=@;d.h=e;e.g=a.g;", 5);
-        isProgram("!;^;!;", 3);
-        isProgram("?a{}", 1);
-        isProgram("?a{}{}", 1);
-        isProgram("?a{!;}{^;!;}*b{?c{}}!;", 7);
-        isProgram("*%|~a&b.g|~c.h&%{}", 1);
-        isProgram("?%{?%{?%{*%{*%{*%{!;}}}}}}", 7);
-        isProgram("?%{}{?%{}{?%{}{?%{}{?%{}{?%{}{}}}}}}", 6);
-    }
-
-    private static void isProgram(String text, int statements) {
-        Due.is("statements of " + text, statements, Due.typed(text).statements());
+        Due.isProgram("", 0);
+        Due.isProgram("a=n;b=N;c=@;d=e;e=a.g;a=b.h;", 6);
+        Due.isProgram("a.g=n;b.h=N;c.g=@;d.h=e;e.g=a.g;", 5);
+        Due.isProgram("!;^;!;", 3);
+        Due.isProgram("?a{}", 1);
+        Due.isProgram("?a{}{}", 1);
+        Due.isProgram("?a{!;}{^;!;}*b{?c{}}!;", 7);
+        Due.isProgram("*%|~a&b.g|~c.h&%{}", 1);
+        Due.isProgram("?%{?%{?%{*%{*%{*%{!;}}}}}}", 7);
+        Due.isProgram("?%{}{?%{}{?%{}{?%{}{?%{}{?%{}{}}}}}}", 6);
     }
 
     private static void grammar() {
@@ -175,21 +170,8 @@ public final class PromisesTest {
             "?%{".repeat(21), "{".repeat(64), "?%{}{".repeat(12),
         };
         for (String text : wrong) {
-            isNoProgram(text);
+            Due.isNoProgram(text);
         }
-    }
-
-    private static void isNoProgram(String text) {
-        NullGuard guard = Due.typed(text);
-        Due.is("statements of " + text, NONE, guard.statements());
-        Due.is("alarms of " + text, NONE, guard.alarms());
-        Due.is("alarm of " + text, NONE, guard.alarm(0));
-        Due.is("alarm of END of " + text, NONE, guard.alarm(text.length()));
-        Due.is("sure of " + text, NONE, guard.sure(0, 0));
-        Due.is("linked of " + text, false, guard.linked(0, 0));
-        Due.is("run of " + text, NONE, guard.run(0, 0));
-        Due.is("steps of " + text, NONE, guard.steps());
-        Due.is("objects of " + text, 0, guard.objects());
     }
 
     // Promise 7
@@ -262,16 +244,16 @@ public final class PromisesTest {
 
     private static void sure() {
         NullGuard guard = Due.typed("a=N;b=a;c=n;a=c;d=b.g;e=b.h;^;!;");
-        sureAre(guard, 0, "11111");
-        sureAre(guard, 4, "21111");
-        sureAre(guard, 8, "22111");
-        sureAre(guard, 12, "22111");
-        sureAre(guard, 16, "12111");
-        sureAre(guard, 22, "12121");
-        sureAre(guard, 28, "12121");
-        sureAre(guard, 30, "00000");
-        sureAre(guard, 32, "00000");
-        for (int v : NO_LOCALS) {
+        Due.sureAre(guard, 0, "11111");
+        Due.sureAre(guard, 4, "21111");
+        Due.sureAre(guard, 8, "22111");
+        Due.sureAre(guard, 12, "22111");
+        Due.sureAre(guard, 16, "12111");
+        Due.sureAre(guard, 22, "12121");
+        Due.sureAre(guard, 28, "12121");
+        Due.sureAre(guard, 30, "00000");
+        Due.sureAre(guard, 32, "00000");
+        for (int v : Due.NO_LOCALS) {
             Due.is("sure of local " + v, NONE, guard.sure(0, v));
         }
         Due.is("sure of no place", NONE, guard.sure(1, 0));
@@ -295,26 +277,20 @@ public final class PromisesTest {
         Due.is("solid stays sure", 2, guard.sure(4, 0));
     }
 
-    private static void sureAre(NullGuard guard, int p, String want) {
-        for (int v = 0; v < 5; v++) {
-            Due.is("sure(" + p + ", " + v + ")", want.charAt(v) - '0', guard.sure(p, v));
-        }
-    }
-
     // Promise 10
 
     private static void linked() {
         NullGuard guard = Due.typed("a=N;b=a;a.h=b;c=a;d=a.g;e=a.h;^;!;");
-        linkedAre(guard, 0, ".....");
-        linkedAre(guard, 8, ".....");
-        linkedAre(guard, 14, "a....");
-        linkedAre(guard, 18, "a.c..");
-        linkedAre(guard, 24, "a.c..");
-        linkedAre(guard, 30, "a.c..");
+        Due.linkedAre(guard, 0, ".....");
+        Due.linkedAre(guard, 8, ".....");
+        Due.linkedAre(guard, 14, "a....");
+        Due.linkedAre(guard, 18, "a.c..");
+        Due.linkedAre(guard, 24, "a.c..");
+        Due.linkedAre(guard, 30, "a.c..");
         Due.is("h of a linked one is sure", 2, guard.sure(30, 4));
-        linkedAre(guard, 32, ".....");
-        linkedAre(guard, 1, ".....");
-        for (int v : NO_LOCALS) {
+        Due.linkedAre(guard, 32, ".....");
+        Due.linkedAre(guard, 1, ".....");
+        for (int v : Due.NO_LOCALS) {
             Due.is("linked of local " + v, false, guard.linked(14, v));
         }
     }
@@ -348,44 +324,38 @@ public final class PromisesTest {
     /** What is LINKED at the END, after a and b were linked and this was done. */
     private static void linkedAfter(String text, String want) {
         String whole = "a=N;a.h=a;b=a;" + text;
-        linkedAre(Due.typed(whole), whole.length(), want);
+        Due.linkedAre(Due.typed(whole), whole.length(), want);
         NullGuard solid = Due.typed(whole);
         solid.declare(0, true);
-        linkedAre(solid, whole.length(), want);
-    }
-
-    private static void linkedAre(NullGuard guard, int p, String want) {
-        for (int v = 0; v < 5; v++) {
-            Due.is("linked(" + p + ", " + v + ")", want.charAt(v) != '.', guard.linked(p, v));
-        }
+        Due.linkedAre(solid, whole.length(), want);
     }
 
     // The ways, as promises 8 to 10 show them
 
     private static void waysOfConditions() {
-        sureAre(Due.typed("?a{!;}{!;}"), 3, "21111");
-        sureAre(Due.typed("?a{!;}{!;}"), 7, "11111");
-        sureAre(Due.typed("?~a{!;}{!;}"), 4, "11111");
-        sureAre(Due.typed("?~a{!;}{!;}"), 8, "21111");
-        sureAre(Due.typed("?a&b{!;}{!;}"), 5, "22111");
-        sureAre(Due.typed("?a&b{!;}{!;}"), 9, "11111");
-        sureAre(Due.typed("?a|b{!;}{!;}"), 5, "11111");
-        sureAre(Due.typed("?~a|~b{!;}{!;}"), 11, "22111");
-        sureAre(Due.typed("?a|~b&c{!;}{!;}"), 3, "11111");
-        sureAre(Due.typed("?a|~b&c{!;}{!;}"), 6, "11111");
-        sureAre(Due.typed("?~a|b&c{!;}{!;}"), 6, "22111");
-        sureAre(Due.typed("?~a|b&c{!;}{!;}"), 8, "11111");
-        sureAre(Due.typed("?~a|b&c{!;}{!;}"), 12, "21111");
-        sureAre(Due.typed("?a.g{!;}{!;}"), 9, "21111");
-        linkedAre(Due.typed("?a.g{!;}{!;}"), 5, ".....");
-        sureAre(Due.typed("?a.h{!;}{!;}"), 9, "21111");
-        linkedAre(Due.typed("?a.h{!;}{!;}"), 5, "a....");
-        linkedAre(Due.typed("?a.h{!;}{!;}"), 9, ".....");
-        linkedAre(Due.typed("?~a.h{!;}{!;}"), 6, ".....");
-        linkedAre(Due.typed("?~a.h{!;}{!;}"), 10, "a....");
-        sureAre(Due.typed("*~a{!;}"), 7, "21111");
-        sureAre(Due.typed("*a{!;}"), 3, "21111");
-        sureAre(Due.typed("*a{!;}"), 6, "11111");
+        Due.sureAre(Due.typed("?a{!;}{!;}"), 3, "21111");
+        Due.sureAre(Due.typed("?a{!;}{!;}"), 7, "11111");
+        Due.sureAre(Due.typed("?~a{!;}{!;}"), 4, "11111");
+        Due.sureAre(Due.typed("?~a{!;}{!;}"), 8, "21111");
+        Due.sureAre(Due.typed("?a&b{!;}{!;}"), 5, "22111");
+        Due.sureAre(Due.typed("?a&b{!;}{!;}"), 9, "11111");
+        Due.sureAre(Due.typed("?a|b{!;}{!;}"), 5, "11111");
+        Due.sureAre(Due.typed("?~a|~b{!;}{!;}"), 11, "22111");
+        Due.sureAre(Due.typed("?a|~b&c{!;}{!;}"), 3, "11111");
+        Due.sureAre(Due.typed("?a|~b&c{!;}{!;}"), 6, "11111");
+        Due.sureAre(Due.typed("?~a|b&c{!;}{!;}"), 6, "22111");
+        Due.sureAre(Due.typed("?~a|b&c{!;}{!;}"), 8, "11111");
+        Due.sureAre(Due.typed("?~a|b&c{!;}{!;}"), 12, "21111");
+        Due.sureAre(Due.typed("?a.g{!;}{!;}"), 9, "21111");
+        Due.linkedAre(Due.typed("?a.g{!;}{!;}"), 5, ".....");
+        Due.sureAre(Due.typed("?a.h{!;}{!;}"), 9, "21111");
+        Due.linkedAre(Due.typed("?a.h{!;}{!;}"), 5, "a....");
+        Due.linkedAre(Due.typed("?a.h{!;}{!;}"), 9, ".....");
+        Due.linkedAre(Due.typed("?~a.h{!;}{!;}"), 6, ".....");
+        Due.linkedAre(Due.typed("?~a.h{!;}{!;}"), 10, "a....");
+        Due.sureAre(Due.typed("*~a{!;}"), 7, "21111");
+        Due.sureAre(Due.typed("*a{!;}"), 3, "21111");
+        Due.sureAre(Due.typed("*a{!;}"), 6, "11111");
     }
 
     private static void waysOutOfBlocks() {
@@ -402,19 +372,19 @@ public final class PromisesTest {
     // Promise 11
 
     private static void run() {
-        runIs("", 0, 0, 0, 0);
-        runIs("a=b.g;", 0, 0, 0, 1);
-        runIs("a=b.g;", 2, 0, 6, 0);
-        runIs("!;a.h=n;", 0, 0, 2, 1);
-        runIs("a.g=n;", 0, 0, 0, 1);
-        runIs("a.g=n;", 1, 0, 0, 2);
-        runIs("a.g=b.h;", 2, 0, 0, 1);
-        runIs("a.g=b.h;", 3, 0, 0, 2);
-        runIs("!;^;!;", 0, 0, 2, 0);
-        runIs("?a.g{}", 0, 0, 1, 1);
-        runIs("?~b.h{}", 0, 0, 1, 1);
-        runIs("a=n;?b|a.h{}", 2, 0, 12, 0);
-        runIs("a=n;?b&a.h{}", 2, 0, 7, 1);
+        Due.runIs("", 0, 0, 0, 0);
+        Due.runIs("a=b.g;", 0, 0, 0, 1);
+        Due.runIs("a=b.g;", 2, 0, 6, 0);
+        Due.runIs("!;a.h=n;", 0, 0, 2, 1);
+        Due.runIs("a.g=n;", 0, 0, 0, 1);
+        Due.runIs("a.g=n;", 1, 0, 0, 2);
+        Due.runIs("a.g=b.h;", 2, 0, 0, 1);
+        Due.runIs("a.g=b.h;", 3, 0, 0, 2);
+        Due.runIs("!;^;!;", 0, 0, 2, 0);
+        Due.runIs("?a.g{}", 0, 0, 1, 1);
+        Due.runIs("?~b.h{}", 0, 0, 1, 1);
+        Due.runIs("a=n;?b|a.h{}", 2, 0, 12, 0);
+        Due.runIs("a=n;?b&a.h{}", 2, 0, 7, 1);
         Due.is("run again is new", 0, Due.typed("").run(-1, -1));
         NullGuard guard = Due.typed("a=b.h;");
         guard.declare(0, true);
@@ -423,10 +393,6 @@ public final class PromisesTest {
         Due.is("nor if they are 1", 2, guard.run(-1, 0));
         Due.is("solid keeps what it held", 0, guard.held(0));
         noProgramRunsNothing();
-    }
-
-    private static void runIs(String text, int start, long oracle, int place, int with) {
-        Due.is("run of " + text, 4 * place + with, Due.typed(text).run(start, oracle));
     }
 
     private static void noProgramRunsNothing() {
@@ -504,10 +470,10 @@ public final class PromisesTest {
     }
 
     private static void runLimit() {
-        runIs("*a{}", 1, 0, 1, 3);
-        runIs("*a{!;}", 1, 0, 3, 3);
-        runIs("*a{!;}", 0, 0, 6, 0);
-        runIs("*a|%{!;b=b;}", 1, 0, 5, 3);
+        Due.runIs("*a{}", 1, 0, 1, 3);
+        Due.runIs("*a{!;}", 1, 0, 3, 3);
+        Due.runIs("*a{!;}", 0, 0, 6, 0);
+        Due.runIs("*a|%{!;b=b;}", 1, 0, 5, 3);
     }
 
     // Promise 12
@@ -519,7 +485,7 @@ public final class PromisesTest {
         for (int v = 0; v < 5; v++) {
             Due.is("held " + v, want[v], guard.held(v));
         }
-        for (int v : NO_LOCALS) {
+        for (int v : Due.NO_LOCALS) {
             Due.is("held of local " + v, NONE, guard.held(v));
         }
         guard.wipe();
