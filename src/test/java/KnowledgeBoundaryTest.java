@@ -133,6 +133,13 @@ public final class KnowledgeBoundaryTest {
         String links = "a.h=N;b=a;c=a;d=a;*%{a=b;b=c;c=d;d=n;}";
         Due.linkedAre(Due.typed(links), 18, "abcd.");
         Due.linkedAre(Due.typed(links), 19, ".....");
+        // All are LINKED at first; when the last of them is not so any more, they are lost one by one.
+        String twice = "a.h=N;b=a;c=a;d=a;e=a;*%{a=b;b=c;c=d;d=e;e=a.h;}";
+        Due.sureAre(Due.typed(twice), 22, "22222");
+        Due.linkedAre(Due.typed(twice), 22, "abcde");
+        Due.sureAre(Due.typed(twice), 23, "21111");
+        Due.linkedAre(Due.typed(twice), 23, ".....");
+        alarmIs("", twice, 41, 1);
         String deep = "a=N;*%{*%{*%{*%{*%{*%{a=b;b=c;c=n;}}}}}}";
         Due.is("lost in the innermost of six loops", 1, Due.typed(deep).sure(5, 0));
     }
@@ -447,6 +454,8 @@ public final class KnowledgeBoundaryTest {
         alarmIs("", "a=N;*a.g{a=n;}", 5, 1);
         alarmIs("e", "a.h=N;*%{e=a.h;!;}", 9, 2);
         alarmIs("e", "a.h=N;*%{e=a.h;}", 9, 0);
+        // At first there is one kind, in the end there are both.
+        alarmIs("e", "a=N;*%{e=a.h;a=n;}", 7, 3);
         // By what flows from it: a is SURE when it is used the second time in one statement.
         alarmIs("", "a.g=a.g;", 0, 1);
     }

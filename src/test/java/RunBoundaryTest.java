@@ -18,6 +18,7 @@ public final class RunBoundaryTest {
         atMostEightObjects();
         firstObject();
         startOfLocals();
+        wayOfRun();
         nothing();
         newObject();
         newObjectOfEight();
@@ -111,6 +112,38 @@ public final class RunBoundaryTest {
         guard.declare(4, true);
         guard.run(2, 0);
         heldAre(guard, 0, 0, NONE, NONE, 0);
+    }
+
+    private static void wayOfRun() {
+        Due.sentence("The run goes from place to place as above, from place 0 on, doing what stands there:");
+        // Out of six blocks at once, and past them.
+        String six = "?%{".repeat(6) + "a=N;" + "}".repeat(6);
+        goes(six, 0, 63, 28, 13);
+        goes(six, 0, 31, 28, 12);
+        goes(six, 0, 0, 28, 2);
+        // Through empty blocks, and where nothing follows in a block.
+        goes("?a{}{^;}!;", 1, 0, 10, 3);
+        goes("?a{}{^;}!;", 0, 0, 5, 2);
+        goes("?a{^;}{}!;", 0, 0, 10, 3);
+        goes("?a{^;}{}!;", 1, 0, 3, 2);
+        goes("*%{}", 0, 7, 4, 5);
+        goes("*%{*%{}}", 0, 0b0011, 8, 6);
+        goes("*%{?%{}{}}", 0, 0b001, 10, 5);
+        goes("*%{?%{}}", 0, 0b011, 8, 5);
+        goes("*%{?%{*%{!;}}}", 0, 0b000111, 14, 9);
+        // From atom to atom.
+        goes("?a&b|c{^;}", 3, 0, 7, 3);
+        goes("?a&b|c{^;}", 5, 0, 7, 4);
+        goes("?a&b|c{^;}", 4, 0, 7, 3);
+        goes("?a&b|c{^;}", 0, 0, 10, 3);
+        goes("?a|b|c{^;}", 1, 0, 7, 2);
+    }
+
+    /** A run that ends with 0. */
+    private static void goes(String text, int start, long oracle, int place, int steps) {
+        NullGuard guard = Due.typed(text);
+        Due.is("run of " + text + " with " + start + ", " + oracle, 4 * place, guard.run(start, oracle));
+        Due.is("steps of " + text + " with " + start + ", " + oracle, steps, guard.steps());
     }
 
     // Terms: values and the oracle

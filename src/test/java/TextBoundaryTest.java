@@ -21,9 +21,11 @@ public final class TextBoundaryTest {
         atoms();
         locals();
         fields();
+        timesOfParts();
         deepBlocks();
         placesThatCount();
         headAndFirstAtom();
+        constant();
         newObject();
         bytesOfPart();
         zeroBytes();
@@ -116,6 +118,8 @@ public final class TextBoundaryTest {
         for (String text : new String[] {
             "a", "a=", "a;", "a=;", "=n;", "a=n", "an;", "a==n;", "a=n;;", "a.=n;", "a.g", "a.g;", "a.gn;", ".g=n;",
             "ag=n;", "a.g=;", "a..g=n;", "a.g.h=n;", "n=n;", "a=n=n;", "ab=n;", "~a=n;", "%=n;",
+            // Another character in place of the = or the ;
+            "a;n;", "a.g.n;", "a.h&n;", "a=n=", "a=n}", "a.g=n.", "a=b.g=", "a.h=b|",
         }) {
             Due.isNoProgram(text);
         }
@@ -222,6 +226,27 @@ public final class TextBoundaryTest {
         }
     }
 
+    private static void timesOfParts() {
+        Due.sentence("({ } without quotes any number of times, [ ] once or not at all.)");
+        for (int times = 0; times < 10; times++) {
+            Due.isProgram("!;".repeat(times), times);
+            Due.isProgram("?a{" + "!;".repeat(times) + "}", 1 + times);
+            Due.isProgram("?a" + "|b".repeat(times) + "{}", 1);
+            Due.isProgram("?a" + "&b".repeat(times) + "{}", 1);
+            onceOrNot("?a{}" + "{}".repeat(times), times);
+            onceOrNot("?" + "~".repeat(times) + "a{}", times);
+            onceOrNot("?a" + ".h".repeat(times) + "{}", times);
+        }
+    }
+
+    private static void onceOrNot(String text, int times) {
+        if (times <= 1) {
+            Due.isProgram(text, 1);
+        } else {
+            Due.isNoProgram(text);
+        }
+    }
+
     private static void deepBlocks() {
         Due.sentence("Blocks stand at most 6 deep in one another.");
         Due.isProgram("?%{".repeat(6) + "}".repeat(6), 6);
@@ -274,7 +299,12 @@ public final class TextBoundaryTest {
         Due.is("a run is at both", 2, guard.steps());
     }
 
-    // Promises 1 to 6
+    // The constant; promises 1 to 6
+
+    private static void constant() {
+        Due.sentence("`NONE = -1`: There is none.");
+        Due.is("NONE", -1, NullGuard.NONE);
+    }
 
     private static void newObject() {
         Due.sentence("An empty text, all locals LOOSE, no run was made.");
@@ -373,6 +403,11 @@ public final class TextBoundaryTest {
             Due.type(guard, "!;".repeat(32));
             Due.is("full again after " + text, 32, guard.statements());
         }
+        NullGuard asked = Due.typed("b.g=n;");
+        Due.is("an alarm before", 1, asked.alarms());
+        asked.wipe();
+        Due.is("no alarm after", 0, asked.alarms());
+        Due.sureAre(asked, 0, "11111");
         NullGuard guard = Due.typed("a=N;c=N;");
         guard.declare(0, true);
         guard.run(0, 0);
