@@ -142,6 +142,23 @@ public final class KnowledgeBoundaryTest {
         alarmIs("", twice, 41, 1);
         String deep = "a=N;*%{*%{*%{*%{*%{*%{a=b;b=c;c=n;}}}}}}";
         Due.is("lost in the innermost of six loops", 1, Due.typed(deep).sure(5, 0));
+        manyRounds();
+    }
+
+    /**
+     * What is lost in the innermost of six loops comes out of them one by one, and then the next is
+     * lost: going over all places in their order, it takes 33 rounds until nothing changes.
+     */
+    private static void manyRounds() {
+        NullGuard guard = Due.typed("b.h=N;a=b;c=b;e=c;*%{d=e;*%{*%{*%{*%{*%{c=d;e=a.h;a=b;}}}}}b=c;}");
+        Due.sureAre(guard, 18, "22212");
+        Due.linkedAre(guard, 18, "abc.e");
+        for (int p : new int[] {19, 21, 25, 26, 28, 29, 31, 32, 34, 35, 37, 38, 40, 44, 59, 64}) {
+            Due.sureAre(guard, p, "11111");
+            Due.linkedAre(guard, p, ".....");
+        }
+        Due.is("alarm of the use in the innermost loop", 1, guard.alarm(44));
+        Due.sureAre(guard, 50, "21111");
     }
 
     private static void nothingFromUnreached() {
