@@ -438,7 +438,11 @@ public final class NullGuard {
         private static final int UNREACHED = -1;
         private static final int ALL_LINKED = ((1 << LOCALS) - 1) << LOCALS;
 
-        /** A state can change 11 times at most, and every round but the last changes one. */
+        /**
+         * Never the end of the rounds, which is that none changes a state: a state changes 11 times at
+         * most, once from UNREACHED and then losing one bit or more each time, and a round that changes
+         * none is the last.
+         */
         private static final int MAX_ROUNDS = PLACES * (2 * LOCALS + 1) + 1;
 
         private final int[] states = new int[PLACES];

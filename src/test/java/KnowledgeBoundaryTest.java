@@ -147,18 +147,18 @@ public final class KnowledgeBoundaryTest {
 
     /**
      * What is lost in the innermost of six loops comes out of them one by one, and then the next is
-     * lost: going over all places in their order, it takes 33 rounds until nothing changes.
+     * lost: going over all places in their order, the 33rd round still changes a state.
      */
     private static void manyRounds() {
-        NullGuard guard = Due.typed("b.h=N;a=b;c=b;e=c;*%{d=e;*%{*%{*%{*%{*%{c=d;e=a.h;a=b;}}}}}b=c;}");
-        Due.sureAre(guard, 18, "22212");
-        Due.linkedAre(guard, 18, "abc.e");
-        for (int p : new int[] {19, 21, 25, 26, 28, 29, 31, 32, 34, 35, 37, 38, 40, 44, 59, 64}) {
+        NullGuard guard = Due.typed("e.h=N;d=e;a=e;*%{b=a;c=e;*%{*%{*%{*%{*%{e=d.h;a=c;}*%{d=b;}}}}}}");
+        Due.sureAre(guard, 14, "21122");
+        Due.linkedAre(guard, 14, "a..de");
+        for (int p : new int[] {15, 17, 21, 25, 26, 28, 29, 31, 32, 34, 35, 37, 38, 40, 51, 52, 54, 64}) {
             Due.sureAre(guard, p, "11111");
             Due.linkedAre(guard, p, ".....");
         }
-        Due.is("alarm of the use in the innermost loop", 1, guard.alarm(44));
-        Due.sureAre(guard, 50, "21111");
+        Due.is("alarm of the use in the innermost loop", 1, guard.alarm(40));
+        Due.sureAre(guard, 46, "11121");
     }
 
     private static void nothingFromUnreached() {

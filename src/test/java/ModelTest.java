@@ -7,9 +7,9 @@ import java.util.Random;
 public final class ModelTest {
     private static final int TEXTS = 20000;
     private static final int RUNS = 12;
-    private static final String SIGNS = "abcdefghnN@.=;?*{}!^%~&|x";
 
     private static final Random random = new Random(20261115);
+    private static final Texts texts = new Texts(random);
     private static int programs = 0;
     private static int clean = 0;
     private static int faults = 0;
@@ -17,7 +17,7 @@ public final class ModelTest {
     public static void main(String[] args) {
         NullGuard guard = new NullGuard();
         for (int i = 0; i < TEXTS; i++) {
-            String text = i % 3 == 0 ? spoiled(program()) : program();
+            String text = text(i);
             // Some objects see one text after another, so that what an earlier one left would show.
             guard = i % 4 == 0 ? new NullGuard() : guard;
             guard.wipe();
@@ -28,6 +28,13 @@ public final class ModelTest {
         Due.is("there were enough clean programs", true, clean > TEXTS / 20);
         Due.is("there were enough runs with faults", true, faults > TEXTS / 20);
         Due.end("ModelTest");
+    }
+
+    private static String text(int i) {
+        if (i % 8 == 0) {
+            return texts.loops();
+        }
+        return i % 3 == 0 ? texts.spoiled(texts.program()) : texts.program();
     }
 
     private static void compare(NullGuard guard, String text) {
@@ -100,77 +107,5 @@ public final class ModelTest {
                 Due.is("linked " + v + " at the end of " + run, true, guard.field(guard.held(v), 1) >= 0);
             }
         }
-    }
-
-    // Texts: few locals more often than many, so that what is known of one meets a use of it.
-
-    private static String program() {
-        while (true) {
-            String text = statements(0, 1 + random.nextInt(7));
-            if (text.length() <= 64) {
-                return text;
-            }
-        }
-    }
-
-    private static String statements(int depth, int count) {
-        StringBuilder all = new StringBuilder();
-        for (int i = 0; i < count; i++) {
-            all.append(statement(depth));
-        }
-        return all.toString();
-    }
-
-    private static String statement(int depth) {
-        int choice = random.nextInt(20);
-        if (choice < 7 && depth < 7) {
-            String head = (choice < 4 ? "?" : "*") + condition() + block(depth);
-            return choice < 2 ? head + block(depth) : head;
-        }
-        if (choice == 18) {
-            return "!;";
-        }
-        if (choice == 19) {
-            return "^;";
-        }
-        return name() + "=" + value() + ";";
-    }
-
-    private static String block(int depth) {
-        return "{" + statements(depth + 1, random.nextInt(4)) + "}";
-    }
-
-    private static String condition() {
-        StringBuilder all = new StringBuilder(atom());
-        while (random.nextInt(3) == 0) {
-            all.append(random.nextBoolean() ? "&" : "|").append(atom());
-        }
-        return all.toString();
-    }
-
-    private static String atom() {
-        if (random.nextInt(3) == 0) {
-            return "%";
-        }
-        return (random.nextInt(3) == 0 ? "~" : "") + name();
-    }
-
-    private static String value() {
-        int choice = random.nextInt(8);
-        return choice == 0 ? "n" : choice == 1 ? "@" : choice < 4 ? "N" : name();
-    }
-
-    private static String name() {
-        String local = "aaabbbcde".charAt(random.nextInt(9)) + "";
-        int choice = random.nextInt(6);
-        return choice == 0 ? local + ".g" : choice < 3 ? local + ".h" : local;
-    }
-
-    private static String spoiled(String text) {
-        int at = random.nextInt(text.length());
-        String sign = "" + SIGNS.charAt(random.nextInt(SIGNS.length()));
-        int kind = random.nextInt(3);
-        String middle = kind == 0 ? "" : kind == 1 || text.length() == 64 ? sign : sign + text.charAt(at);
-        return text.substring(0, at) + middle + text.substring(at + 1);
     }
 }

@@ -25,6 +25,7 @@ public final class PromisesTest {
         field();
         objects();
         steps();
+        exampleOfReadme();
         Due.end("PromisesTest");
     }
 
@@ -586,5 +587,23 @@ public final class PromisesTest {
         NullGuard guard = Due.typed(text);
         Due.is("run of " + text, 4 * place + with, guard.run(0, -1));
         Due.is("steps of " + text, steps, guard.steps());
+    }
+
+    // README.md
+
+    private static void exampleOfReadme() {
+        NullGuard guard = new NullGuard();
+        Due.is("example type", true, guard.type(0x623d612e673bL));
+        Due.is("example statements", 1, guard.statements());
+        Due.is("example alarm", 1, guard.alarm(0));
+        Due.is("example run with nothing", 1, guard.run(0, 0L));
+        Due.is("example run with object 0", 24, guard.run(1, 0L));
+        Due.is("example declare", true, guard.declare(0, true));
+        Due.is("example alarms", 0, guard.alarms());
+        Due.is("example sure", 2, guard.sure(6, 1));
+        Due.is("example run when solid", 24, guard.run(0, 0L));
+        Due.is("example held", 0, guard.held(1));
+        Due.is("example steps", 1, guard.steps());
+        Due.is("example condition", 1, Due.typed("?a&~b.h|%{}").statements());
     }
 }
