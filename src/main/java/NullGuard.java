@@ -439,9 +439,8 @@ public final class NullGuard {
         private static final int ALL_LINKED = ((1 << LOCALS) - 1) << LOCALS;
 
         /**
-         * Never the end of the rounds, which is that none changes a state: a state changes 11 times at
-         * most, once from UNREACHED and then losing one bit or more each time, and a round that changes
-         * none is the last.
+         * The rounds end with one that changes no state. This bound never ends them before: a state
+         * changes at most 11 times, first from UNREACHED and then losing one of its 10 bits or more.
          */
         private static final int MAX_ROUNDS = PLACES * (2 * LOCALS + 1) + 1;
 
